@@ -157,7 +157,7 @@ public final class LionShield {
             return BAD;
         }
         shields.workOutAll(now);
-        return shields.areSame(one, other) ? 1 : 0;
+        return shields.packed(one) == shields.packed(other) ? 1 : 0;
     }
 
     public int land(int what) {
@@ -753,9 +753,13 @@ public final class LionShield {
         boolean passYear() {
             boolean wanted = draw() % 100 < fertile;
             year++;
+            return wanted && hasRoom() && bringForth();
+        }
+
+        private boolean bringForth() {
             int men = howMany(HE);
             int women = howMany(SHE);
-            if (!wanted || !hasRoom() || men < 1 || women < 1) {
+            if (men < 1 || women < 1) {
                 return false;
             }
             int itsFather = nthOf(HE, draw() % men);
@@ -862,6 +866,7 @@ public final class LionShield {
     /** What the people of one land bear; a charge is to be worked out before it is asked for. */
     private static final class Shields {
         private final int[] unbarred = new int[CHARGES * MOST_PEOPLE];
+        private final long[] pack = new long[MOST_PEOPLE];
         private final int[] stack = new int[MOST_BYTES];
         private Land land = new Land();
         private Law join = null;
@@ -931,20 +936,21 @@ public final class LionShield {
             return hidden(one, charge);
         }
 
-        boolean areSame(int one, int other) {
+        /** A whole SHIELD in one number (a part is 0 .. 64, so 7 bits hold it): ALIKE are those with the same. */
+        long packed(int one) {
+            long shield = 0;
             for (int charge = 0; charge < CHARGES; charge++) {
-                if (shown(one, charge) != shown(other, charge)) {
-                    return false;
-                }
+                shield = shield << 7 | shown(one, charge);
             }
-            return true;
+            return shield;
         }
 
         int clashes() {
             int found = 0;
             for (int one = 0; one < land.people; one++) {
-                for (int other = one + 1; other < land.people; other++) {
-                    if (areSame(one, other)) {
+                pack[one] = packed(one);
+                for (int older = 0; older < one; older++) {
+                    if (pack[older] == pack[one]) {
                         found++;
                     }
                 }
