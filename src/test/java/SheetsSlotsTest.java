@@ -24,9 +24,11 @@ public final class SheetsSlotsTest {
         Due.is("29: 24 shorts", x.sheet(0, 0, 24), 24);
         Due.is("29: no place", x.sheet(1, 1, 0), 0);
         Due.is("29: a row without places is there", x.reads(1), Due.NONE);
+        x.mark(0, 0, 4);
         x.mark(0, 23, 5);
         Due.is("29: anew", x.sheet(0, 0, 24), 24);
         Due.is("29: all 0", at(x, 0, 23), 0);
+        Due.is("29: the first too", at(x, 0, 0), 0);
         Due.is("29: 25", x.sheet(0, 0, 25), Due.BAD);
         Due.is("29: below 0", x.sheet(0, 0, -1), Due.SIZE);
         Due.is("29: sort 2", x.sheet(0, 2, -1), Due.BAD);
@@ -107,6 +109,11 @@ public final class SheetsSlotsTest {
         Due.is("32: not held within", x.reads(0), 0);
         x.sheet(1, 0, 1);
         Due.is("32: a shorter sheet", x.reads(1), Due.NONE);
+        x.sheet(1, 1, 24);
+        for (int place = 0; place < 24; place++) {
+            x.mark(1, place, Due.NONE);
+        }
+        Due.is("32: 24 places without a number", x.reads(1), Due.NONE);
         Due.is("32: missing", x.reads(2), Due.NOTHING);
         Due.is("32: sheet 4", x.reads(4), Due.BAD);
         Due.is("32: sheet -1", x.reads(-1), Due.BAD);

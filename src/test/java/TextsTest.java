@@ -72,6 +72,9 @@ public final class TextsTest {
         gives("4=4", 1);
         gives("4>3", 1);
         gives("3>4", 0);
+        gives("4>4", 0);
+        gives("5=4", 0);
+        gives("5<4", 0);
         gives("1+1=p", 1);
         gives("0|5", 1);
         gives("0|0", 0);
@@ -159,6 +162,15 @@ public final class TextsTest {
         fault("join f&|m", 7);
         fault("join F", 5);
         fault("fe e", 0);
+        fault("koin f", 0);
+        fault("gee y", 0);
+        fault("joinz", 0);
+        fault("joina", 0);
+        fault("join z", 5);
+        fault("fee {", 4);
+        fault("fee `", 4);
+        fault("fee9", 3);
+        fault("fee0", 3);
         LionShield x = new LionShield();
         Due.is("26: a sign right behind the key", Due.text(x, "join(f)"), 0);
         Due.is("26: a ! right behind the key", Due.text(x, "fee!y"), 1);

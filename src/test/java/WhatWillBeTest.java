@@ -43,6 +43,14 @@ public final class WhatWillBeTest {
         }
         LionShield x = dealt(3);
         Due.is("18: n 0", x.behind(0, 0), 7);
+        x.fertile(0);
+        Due.is("18: n 100", x.behind(100, 0), 7);
+        LionShield y = new LionShield();
+        y.person(0, -1, -1, 0, 1);
+        y.person(0, 0, -1, 0, 1);
+        Due.text(y, "join 3");
+        Due.is("18: by the law", y.behind(0, 3), 67);
+        Due.is("18: by the law, another charge", y.behind(0, 2), 3);
         Due.is("18: n -1", x.behind(-1, 0), Due.BAD);
         Due.is("18: n 101", x.behind(101, 0), Due.BAD);
         Due.is("18: what -1", x.behind(0, -1), Due.BAD);

@@ -10,6 +10,7 @@ public final class YearsShieldsTest {
         match();
         matchByLaw();
         repaint();
+        fourteenOfOne();
         Due.end();
     }
 
@@ -104,6 +105,8 @@ public final class YearsShieldsTest {
         x.set(0, 5, 0);
         x.person(0, -1, -1, 0, 7);
         Due.is("12: the last charge counts", x.alike(3, 2), 0);
+        x.person(0, -1, -1, 0, 0);
+        Due.is("12: the first charge counts", x.alike(4, 2), 0);
     }
 
     private static void land() {
@@ -120,6 +123,9 @@ public final class YearsShieldsTest {
         x.person(0, 0, 3, 1, 0);
         x.person(0, 0, 3, 0, 0);
         Due.is("13: with a brother none", x.land(3), 24);
+        LionShield y = new LionShield();
+        y.person(0, -1, -1, 1, 1);
+        Due.is("13: number 0 an heiress", y.land(3), 1);
         Due.is("13: -1", x.land(-1), Due.BAD);
         Due.is("13: 4", x.land(4), Due.BAD);
     }
@@ -208,6 +214,34 @@ public final class YearsShieldsTest {
         Due.is("16: by n", x.match(0, 1, 1), 33);
     }
 
+    /** A full land whose people are all alike. */
+    private static void fourteenOfOne() {
+        LionShield x = new LionShield();
+        for (int i = 0; i < 14; i++) {
+            x.person(0, -1, -1, i % 2, 6);
+        }
+        Due.is("13: all two", x.land(0), 91);
+        Due.is("13: all heiresses", x.land(3), 0x2AAA);
+        Due.is("14: all", x.sixteenth(6), 0x3FFF);
+        Due.is("12: the last two", x.alike(13, 12), 1);
+        Due.is("15: the last", x.from(13, 6), 13);
+        Due.is("16: the last", x.match(13, 6, 0), 0);
+        Due.is("16: all of it", x.match(13, 6, 1), 64);
+        Due.is("17: one of them made 0", x.repaint(), 0);
+        Due.is("18: together", x.behind(100, 8), 14 * 64);
+        Due.is("20: all but 6 are gone", x.gone(60, 0), 0);
+        x.sheet(0, 0, 24);
+        Due.is("21: all are as far", x.spoon(0, 1), 64);
+        Due.is("32: the first", x.reads(0), 0);
+        Due.is("31: all", x.pour(0), 14);
+        Due.is("32: the first that is none of them", x.reads(0), 14);
+        Due.is("40: all", x.keep(), 14);
+        x.tell(14);
+        x.tell(14 * 64);
+        Due.is("39: all", x.check(1), 0);
+        Due.is("42: no fathers", x.count(3), 14);
+    }
+
     private static void repaint() {
         LionShield x = new LionShield();
         x.person(0, -1, -1, 0, 0);
@@ -236,5 +270,11 @@ public final class YearsShieldsTest {
         y.set(2, 5, 255);
         y.set(3, 5, 255);
         Due.is("17: all painted over", y.repaint(), Due.NONE);
+        LionShield w = new LionShield();
+        w.person(0, -1, -1, 0, 1);
+        w.person(0, -1, -1, 1, 1);
+        Due.is("17: charge 0 is another one too", w.repaint(), 0);
+        w.turns(0, 5);
+        Due.is("17: none is alike", w.repaint(), Due.NONE);
     }
 }
