@@ -2,30 +2,33 @@ import java.lang.management.ManagementFactory;
 
 /** The room of a run is small: behind the constructor only texts may make something new. */
 public final class RoomTest {
-    private static final int CALLS = 400;
+    private static final int OBJECTS = 40, ROUNDS = 12, TEXTS = 150;
 
     public static void main(String[] args) {
         com.sun.management.ThreadMXBean threads = (com.sun.management.ThreadMXBean) ManagementFactory.getThreadMXBean();
         long self = Thread.currentThread().getId();
-        run(full());
-        LionShield x = full();
+        rounds(full());
+        long spent = 0;
+        for (int i = 0; i < OBJECTS; i++) {
+            LionShield x = full();
+            long before = threads.getThreadAllocatedBytes(self);
+            rounds(x);
+            spent += threads.getThreadAllocatedBytes(self) - before;
+        }
+        Due.is("bytes made by all calls but text (" + spent + ") are few", spent < 4096 ? 0 : spent, 0);
         long before = threads.getThreadAllocatedBytes(self);
-        run(x);
-        long spent = threads.getThreadAllocatedBytes(self) - before;
-        Due.is("bytes made by " + CALLS + " rounds of all calls but text (" + spent + ") are few", spent < 4096 ? 0 : spent, 0);
-        before = threads.getThreadAllocatedBytes(self);
         LionShield y = new LionShield();
         spent = threads.getThreadAllocatedBytes(self) - before;
         Due.is("bytes of a new object (" + spent + ") are few", spent < 16384 ? 0 : spent, 0);
         before = threads.getThreadAllocatedBytes(self);
         y.keep();
-        for (int i = 0; i < CALLS; i++) {
+        for (int i = 0; i < TEXTS; i++) {
             y.feed(0x66656520, 0x31322B33, 0x34352020);
             y.text();
             y.back();
         }
         spent = threads.getThreadAllocatedBytes(self) - before;
-        Due.is("bytes of " + CALLS + " texts (" + spent + ") are few", spent < CALLS * 1024L ? 0 : spent, 0);
+        Due.is("bytes of " + TEXTS + " texts (" + spent + ") are few", spent < TEXTS * 1024L ? 0 : spent, 0);
         Due.end();
     }
 
@@ -42,8 +45,9 @@ public final class RoomTest {
         return x;
     }
 
-    private static void run(LionShield x) {
-        for (int i = 0; i < CALLS; i++) {
+    /** All calls but text, so often that one object has not more than its 512. */
+    private static void rounds(LionShield x) {
+        for (int i = 0; i < ROUNDS; i++) {
             x.back();
             x.person(i % 6, 0, 1, i % 2, i % 8);
             x.told(i % 8, i % 8);

@@ -46,10 +46,11 @@ public final class RowsImagesTest {
         return x;
     }
 
-    private static int[] yearsTold(LionShield x, int n) {
+    private static int[] yearsTold(int z, int n) {
         int[] told = new int[2 * n];
         for (int i = 0; i < n; i++) {
-            x.years(1);
+            LionShield x = kept(z);
+            x.years(1 + i);
             told[2 * i] = x.count(0);
             for (int one = 0; one < x.count(0); one++) {
                 told[2 * i + 1] += x.bears(one, 0);
@@ -67,7 +68,7 @@ public final class RowsImagesTest {
     private static void checkRight() {
         for (int z = 1; z <= 30; z++) {
             LionShield x = kept(z);
-            tellAll(x, yearsTold(kept(z), z), 2 * z);
+            tellAll(x, yearsTold(z, z), 2 * z);
             Due.is("39: as told, " + z, x.check(z), 0);
             Due.is("39: none waits then, " + z, x.count(5), 0);
             Due.is("39: nothing changes, " + z, x.count(1), 0);
@@ -75,7 +76,7 @@ public final class RowsImagesTest {
     }
 
     private static void checkWrong() {
-        int[] right = yearsTold(kept(5), 10);
+        int[] right = yearsTold(5, 10);
         for (int at = 0; at < 20; at++) {
             LionShield x = kept(5);
             int was = right[at];
@@ -94,7 +95,7 @@ public final class RowsImagesTest {
 
     private static void checkByTheImage() {
         LionShield x = kept(8);
-        int[] right = yearsTold(kept(8), 6);
+        int[] right = yearsTold(8, 6);
         x.years(50);
         x.fertile(0);
         x.seed(1);
