@@ -21,7 +21,7 @@ final class Edge {
     private static final Path DOC = Path.of("../shared/DOC.md");
     /** What names an edge, in the terms and in a promise. */
     private static final Pattern EDGE_OF_TERMS = Pattern.compile("\\d+ \\.\\. \\d+|at most|at least|at first|\\bcut|wrap"
-        + "|by 0|ninth|\\d to \\d|of several|too soon|NONE|without|is none|MISSING|nothing|below 0|no such place|at then");
+        + "|by 0|ninth|\\d to \\d|of several|too soon|NONE|without|is none|MISSING|nothing|below 0|no such place");
     private static final Pattern EDGE_OF_PROMISE = Pattern.compile(
         "\\d+ \\.\\. \\d+|\\b(BAD|NO|FULL|NONE|NOTHING|INDEX|SIZE)\\b|KIND:|FAULT|no more than|as many as|fewer");
 

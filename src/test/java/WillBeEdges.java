@@ -116,6 +116,16 @@ final class WillBeEdges {
         Edge.refused("of several the least", all, x -> x.gone(0, 0), 0);
         Edge.refused("by one each", all, x -> x.gone(0, 1), 1);
         anyPart();
+        State most = new State("thirteen bear all", () -> {
+            LionShield x = new LionShield();
+            for (int i = 0; i < 14; i++) {
+                x.person(0, i == 0 ? -1 : 0, -1, 0, 0);
+            }
+            Due.text(x, "join 1");
+            return x;
+        });
+        Edge.refused("the fewest are thirteen", most, x -> x.gone(0, 1), 13);
+        Edge.refused("all bear 0, so it is 1", most, x -> x.gone(60, 0), 1);
         Edge.says(20, "GONE for n (0 .. 60): what 0 the CHARGE, 1 how many bear it. BAD.");
         Edge.beyond("n", Lands.SOME, (x, v) -> x.gone(v, 0), 0, 60, BAD);
         Edge.beyond("what", Lands.SOME, (x, v) -> x.gone(0, v), 0, 1, BAD);
