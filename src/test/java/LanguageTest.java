@@ -7,7 +7,9 @@ import java.nio.file.Files;
 import java.nio.file.Path;
 import java.util.Arrays;
 import java.util.List;
+import java.util.Map;
 import java.util.Set;
+import java.util.TreeMap;
 import java.util.TreeSet;
 import java.util.regex.Matcher;
 import java.util.regex.Pattern;
@@ -31,6 +33,7 @@ public final class LanguageTest {
         String code = bare(source);
         words(code);
         methodsStayShort(code);
+        callsStayFlat(code);
         Due.end();
     }
 
@@ -134,5 +137,47 @@ public final class LanguageTest {
                 start = -1;
             }
         }
+    }
+
+    /** By names alone, so that methods of one name count as one: what is found is never less than what can be. */
+    private static void callsStayFlat(String code) {
+        Map<String, Set<String>> calls = callsByName(code);
+        Set<String> round = new TreeSet<>();
+        int deepest = 0;
+        for (String name : calls.keySet()) {
+            deepest = Math.max(deepest, depth(name, calls, new TreeSet<>(), round));
+        }
+        Due.is("calls go " + deepest + " deep, eight at most", deepest <= 8 ? 1 : 0, 1);
+        Due.is("only the reader calls itself: " + round, round.equals(Set.of("readLevel", "readPiece")) ? 1 : 0, 1);
+    }
+
+    private static Map<String, Set<String>> callsByName(String code) {
+        Map<String, Set<String>> calls = new TreeMap<>();
+        Matcher method = Pattern.compile("(?ms)^( {4}| {8})(?! )[\\w\\[\\] ]*?(\\w+)\\([^)]*\\) \\{$(.*?)^\\1\\}$").matcher(code);
+        while (method.find()) {
+            Matcher call = Pattern.compile("(\\w+)\\(").matcher(method.group(3));
+            Set<String> called = calls.computeIfAbsent(method.group(2), name -> new TreeSet<>());
+            while (call.find()) {
+                called.add(call.group(1));
+            }
+        }
+        return calls;
+    }
+
+    /** The longest way down from a method, each method once; those from which a way leads round are told. */
+    private static int depth(String name, Map<String, Set<String>> calls, Set<String> open, Set<String> round) {
+        if (!calls.containsKey(name)) {
+            return 0;
+        }
+        if (!open.add(name)) {
+            round.add(name);
+            return 0;
+        }
+        int deepest = 0;
+        for (String called : calls.get(name)) {
+            deepest = Math.max(deepest, depth(called, calls, open, round));
+        }
+        open.remove(name);
+        return deepest + 1;
     }
 }
